@@ -1,5 +1,6 @@
 import java.util.ArrayList;
 import java.util.List;
+import java.util.function.Consumer;
 import java.util.function.ToIntFunction;
 import java.util.stream.IntStream;
 
@@ -10,6 +11,7 @@ import java.util.stream.IntStream;
 public final class BoundaryTest {
     private static final int LOOPS = 213;
     private static final int CALLS = 512;
+    private static final int QUESTIONS = 7;
     private static final int CHOSEN = SlitherLoop.CHOSEN;
     private static final int CROSSED = SlitherLoop.CROSSED;
     private static final int OPEN = SlitherLoop.OPEN;
@@ -123,15 +125,15 @@ public final class BoundaryTest {
         }
     }
 
+    private static int clueThatHolds(int cell, int[] edges) {
+        return (int) IntStream.of(sidesOf(cell / 3, cell % 3)).filter(side -> isIn(edges, side)).count();
+    }
+
     /** Every edge has a mark and every cell the clue that goes with them. */
     private static SlitherLoop withAllHints(int... edges) {
         SlitherLoop x = withAllMarks(edges);
         for (int cell = 0; cell < 9; cell++) {
-            int count = 0;
-            for (int side : sidesOf(cell / 3, cell % 3)) {
-                count += isIn(edges, side) ? 1 : 0;
-            }
-            x.clue(cell / 3, cell % 3, count);
+            x.clue(cell / 3, cell % 3, clueThatHolds(cell, edges));
         }
         return x;
     }
@@ -165,52 +167,91 @@ public final class BoundaryTest {
         }
     }
 
-    /** What the calls answer. The hints are read last, because reading them takes them away. */
-    private static List<Integer> allAnswers(SlitherLoop x) {
-        List<Integer> all = new ArrayList<>();
-        int count = x.solutions();
-        all.add(count);
-        all.add(x.decided());
-        all.add(x.shortest());
-        for (int edge = 0; edge < 24; edge++) {
-            all.add(x.votes(edge));
+    private static void readHints(SlitherLoop x, List<Integer> all) {
+        for (int cell = 0; cell < 9; cell++) {
+            int clue = x.clue(cell / 3, cell % 3, NO_CLUE);
+            x.clue(cell / 3, cell % 3, clue);
+            all.add(clue);
         }
-        for (int n : new int[] {-1, 0, 1, count / 2, count - 1, count}) {
-            all.add(x.length(n));
-            all.add(x.inside(n));
-            for (int edge = 0; edge < 24; edge++) {
-                all.add(x.chosen(n, edge) ? 1 : 0);
+        for (int edge = 0; edge < 24; edge++) {
+            int mark = x.mark(edge, OPEN);
+            x.mark(edge, mark);
+            all.add(mark);
+        }
+    }
+
+    private static void ask(SlitherLoop x, int question, List<Integer> all) {
+        switch (question) {
+            case 0:
+                all.add(x.solutions());
+                break;
+            case 1:
+                all.add(x.decided());
+                break;
+            case 2:
+                all.add(x.shortest());
+                break;
+            case 3:
+                IntStream.range(0, 24).forEach(edge -> all.add(x.votes(edge)));
+                break;
+            default:
+                askOfSolutions(x, question, all);
+        }
+    }
+
+    private static void askOfSolutions(SlitherLoop x, int question, List<Integer> all) {
+        for (int n : new int[] {212, 0, 1, 12, 25}) {
+            switch (question) {
+                case 4:
+                    all.add(x.length(n));
+                    break;
+                case 5:
+                    all.add(x.inside(n));
+                    break;
+                default:
+                    IntStream.range(0, 24).forEach(edge -> all.add(x.chosen(n, edge) ? 1 : 0));
             }
         }
-        for (int cell = 0; cell < 9; cell++) {
-            all.add(x.clue(cell / 3, cell % 3, NO_CLUE));
-        }
-        for (int edge = 0; edge < 24; edge++) {
-            all.add(x.mark(edge, OPEN));
+    }
+
+    /** What the calls answer. The hints come first, so that no question can have changed them. */
+    private static List<Integer> allAnswers(SlitherLoop x, boolean backwards) {
+        List<Integer> all = new ArrayList<>();
+        readHints(x, all);
+        for (int question = 0; question < QUESTIONS; question++) {
+            ask(x, backwards ? QUESTIONS - 1 - question : question, all);
         }
         return all;
     }
 
-    private static List<Integer> answersOfState(int number) {
-        while (ANSWERS_OF_STATES.size() <= number) {
-            ANSWERS_OF_STATES.add(allAnswers(state(ANSWERS_OF_STATES.size())));
+    private static List<Integer> answersOfState(int number, boolean backwards) {
+        int place = number * 2 + (backwards ? 1 : 0);
+        while (ANSWERS_OF_STATES.size() <= place) {
+            int next = ANSWERS_OF_STATES.size();
+            ANSWERS_OF_STATES.add(allAnswers(state(next / 2), next % 2 == 1));
         }
-        return ANSWERS_OF_STATES.get(number);
+        return ANSWERS_OF_STATES.get(place);
     }
 
-    private static void dueUnchanged(String call, SlitherLoop x, int number) {
-        if (!allAnswers(x).equals(answersOfState(number))) {
-            wrong(call + " " + STATES[number] + " has changed what other calls answer");
+    /**
+     * The questions are asked in both orders: what a question changes for another one is seen only
+     * where the other one is asked first, because the due answers come from asking, too.
+     */
+    private static void changesNothing(String call, Consumer<SlitherLoop> made) {
+        for (int number = 0; number < STATES.length; number++) {
+            for (boolean backwards : new boolean[] {false, true}) {
+                SlitherLoop x = state(number);
+                made.accept(x);
+                if (!allAnswers(x, backwards).equals(answersOfState(number, backwards))) {
+                    wrong(call + " " + STATES[number] + " has changed what other calls answer");
+                }
+            }
         }
     }
 
     /** In every state the call has this answer, and afterwards nothing has changed. */
     private static void refused(String call, ToIntFunction<SlitherLoop> made, int want) {
-        for (int number = 0; number < STATES.length; number++) {
-            SlitherLoop x = state(number);
-            due(call + " " + STATES[number], made.applyAsInt(x), want);
-            dueUnchanged(call, x, number);
-        }
+        changesNothing(call, x -> due(call, made.applyAsInt(x), want));
     }
 
     private static void refusedClue(int row, int column, int clue, int want) {
@@ -223,14 +264,6 @@ public final class BoundaryTest {
 
     private static void refusedChosen(int n, int edge) {
         refused("chosen(" + n + ", " + edge + ")", x -> x.chosen(n, edge) ? 1 : 0, 0);
-    }
-
-    private static void changesNothing(String call, ToIntFunction<SlitherLoop> made) {
-        for (int number = 0; number < STATES.length; number++) {
-            SlitherLoop x = state(number);
-            made.applyAsInt(x);
-            dueUnchanged(call, x, number);
-        }
     }
 
     private static void dueClues(SlitherLoop x, String when, int... want) {
@@ -450,6 +483,20 @@ public final class BoundaryTest {
         due("solutions() with a loop over all points", withAllMarks(LONGEST).solutions(), 1);
     }
 
+    /** For each cell every clue keeps just the loops that choose as many of its edges. */
+    private static void clueCounts() {
+        for (int cell = 0; cell < 9; cell++) {
+            int[] keeping = new int[5];
+            for (int n = 0; n < LOOPS; n++) {
+                keeping[clueThatHolds(cell, edgesOfLoop(n))]++;
+            }
+            for (int clue = 0; clue <= 4; clue++) {
+                due("solutions() with clue " + clue + " in cell " + cell,
+                        withClue(cell / 3, cell % 3, clue).solutions(), keeping[clue]);
+            }
+        }
+    }
+
     /** The loops' edges 0 to 8 differ, so edge 8 is the last one that can decide. */
     private static void orderWithoutHints() {
         int decidedByFirst = 0;
@@ -492,12 +539,12 @@ public final class BoundaryTest {
         for (int edge = 0; edge < 24; edge++) {
             int asked = edge;
             changesNothing("votes(" + asked + ")", x -> x.votes(asked));
-            changesNothing("chosen(0, " + asked + ")", x -> x.chosen(0, asked) ? 1 : 0);
+            changesNothing("chosen(0, " + asked + ")", x -> x.chosen(0, asked));
         }
         for (int n : new int[] {-1, 0, 1, 25, 26, 211, 212, 213}) {
             changesNothing("length(" + n + ")", x -> x.length(n));
             changesNothing("inside(" + n + ")", x -> x.inside(n));
-            changesNothing("chosen(" + n + ", 23)", x -> x.chosen(n, 23) ? 1 : 0);
+            changesNothing("chosen(" + n + ", 23)", x -> x.chosen(n, 23));
         }
     }
 
@@ -777,7 +824,7 @@ public final class BoundaryTest {
 
     private static void noSuchSolution() {
         for (int n : outside(LOOPS)) {
-            for (int edge : new int[] {0, 1, 8, 10, 11, 12, 15, 22, 23}) {
+            for (int edge : new int[] {0, 1, 10, 23}) {
                 refusedChosen(n, edge);
             }
         }
@@ -829,7 +876,23 @@ public final class BoundaryTest {
         due("length(0) without solutions", withoutSolutions().length(0), 0);
     }
 
+    /** A cell is inside if the way from it up to the outside crosses the loop an odd number of times. */
+    private static int cellsInside(int[] edges) {
+        int inside = 0;
+        for (int cell = 0; cell < 9; cell++) {
+            int crossed = 0;
+            for (int above = cell; above >= 0; above -= 3) {
+                crossed += isIn(edges, above) ? 1 : 0;
+            }
+            inside += crossed % 2;
+        }
+        return inside;
+    }
+
     private static void fewAndManyCells() {
+        for (int n = 0; n < LOOPS; n++) {
+            due("inside(" + n + ")", new SlitherLoop().inside(n), cellsInside(edgesOfLoop(n)));
+        }
         for (int cell = 0; cell < 9; cell++) {
             due("inside(0) of cell " + cell + " alone", withClue(cell / 3, cell % 3, 4).inside(0), 1);
         }
@@ -940,6 +1003,7 @@ public final class BoundaryTest {
         test("Terms", "at every point none or exactly two of the chosen edges meet", BoundaryTest::noneOrTwoMeet);
         test("Terms", "none or exactly two meet, not four", BoundaryTest::cellsThatTouch);
         test("Terms", "one can go from every chosen edge to every other one", BoundaryTest::oneSingleLoop);
+        test("Terms", "a CLUE in a cell says how many of its four edges are chosen", BoundaryTest::clueCounts);
         test("Terms", "the first edge, by number, that one chooses and the other doesn't decides",
                 BoundaryTest::orderWithoutHints);
         test("Terms", "the one that doesn't choose it comes first", BoundaryTest::orderOfTwoSolutions);
