@@ -397,6 +397,25 @@ public final class PromisesTest {
         due("solutions()", x.solutions(), LOOPS);
     }
 
+    private static void exampleOfReadme() {
+        promise = "README.md";
+        SlitherLoop puzzle = new SlitherLoop();
+        due("solutions()", puzzle.solutions(), 213);
+        due("clue(1, 1, 2)", puzzle.clue(1, 1, 2), SlitherLoop.NO_CLUE);
+        due("mark(10, CHOSEN)", puzzle.mark(10, SlitherLoop.CHOSEN), SlitherLoop.OPEN);
+        due("solutions()", puzzle.solutions(), 40);
+        due("votes(0)", puzzle.votes(0), 14);
+        due("chosen(0, 10)", puzzle.chosen(0, 10), true);
+        due("length(0)", puzzle.length(0), 8);
+        due("inside(0)", puzzle.inside(0), 3);
+        due("length(40)", puzzle.length(40), 0);
+        due("decided()", puzzle.decided(), 1);
+        due("shortest()", puzzle.shortest(), 8);
+        due("mark(24, CROSSED)", puzzle.mark(24, SlitherLoop.CROSSED), SlitherLoop.BAD_EDGE);
+        puzzle.clear();
+        due("solutions()", puzzle.solutions(), 213);
+    }
+
     public static void main(String[] args) {
         newObject();
         clueAnswersTheOldOne();
@@ -416,6 +435,7 @@ public final class PromisesTest {
         shortestIsFound();
         orderOfTests();
         askingChangesNothing();
+        exampleOfReadme();
         System.out.println(wrong == 0 ? "all answers are as due" : wrong + " answers are not as due");
         if (wrong != 0) {
             System.exit(1);
